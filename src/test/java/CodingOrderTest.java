@@ -1,33 +1,13 @@
 /** Promise 11, and the coding order of promise 7. */
 public final class CodingOrderTest {
     private static final Checks CHECKS = new Checks();
+    private static final PerFrameAnswers ANSWERS = new PerFrameAnswers(CHECKS, "codingOrder", GopVideoCodec::codingOrder);
 
     private static void order(int bFrames, String order) {
-        GopVideoCodec codec = new GopVideoCodec(8, 0, bFrames);
-        int n = order.length();
-        for (int pos = 0; pos < n; pos++) {
-            codec.appendTexture(pos);
-            CHECKS.due("codingOrder(" + pos + ") before encode()", codec.codingOrder(pos), GopVideoCodec.NONE);
-        }
-        codec.encode();
-        for (int round = 0; round < 2; round++) {
-            int[] before = Checks.allAnswers(codec);
-            for (int pos = 0; pos < n; pos++) {
-                CHECKS.due("M = " + bFrames + ", n = " + n + ": codingOrder(" + pos + ")",
-                        codec.codingOrder(pos), order.charAt(pos) - '0');
-            }
-            for (int pos : new int[] {Integer.MIN_VALUE, -1, n, n + 1, 8, 9, Integer.MAX_VALUE}) {
-                CHECKS.due("n = " + n + ": codingOrder(" + pos + ")", codec.codingOrder(pos), GopVideoCodec.NONE);
-            }
-            CHECKS.unchanged("codingOrder", before, codec);
-            Checks.decodeAll(codec);
-        }
-        codec.reset();
-        CHECKS.due("codingOrder(0) after reset()", codec.codingOrder(0), GopVideoCodec.NONE);
+        ANSWERS.check(bFrames, order.chars().map(digit -> digit - '0').toArray());
     }
 
     public static void main(String[] args) {
-        CHECKS.due("codingOrder(0) of a new object", new GopVideoCodec(1, 1, 1).codingOrder(0), GopVideoCodec.NONE);
         for (int bFrames = 0; bFrames <= 3; bFrames++) {
             order(bFrames, "0");
             order(bFrames, "01");
