@@ -1,11 +1,34 @@
 import java.util.Arrays;
+import java.util.function.Consumer;
+import java.util.function.Supplier;
+import java.util.stream.IntStream;
 
-/** Counts and prints the answers that are not the ones that are due. */
+/** Counts and prints the answers that are not the ones that are due, sentence by sentence of the document. */
 final class Checks {
     static final int[] EDGES = {Integer.MIN_VALUE, -128, -1, 0, 1, 7, 8, 9, 64, 255, 256, Integer.MAX_VALUE};
 
+    /** A call of the document's face; a boolean counts 1 or 0. */
+    interface Call {
+        int on(GopVideoCodec codec);
+    }
+
     private int right = 0;
     private int wrong = 0;
+    private int held = 0;
+    private int broken = 0;
+
+    /** The test of one sentence of the document, told by its words or by what they come to. */
+    void sentence(String words, Runnable test) {
+        int rightBefore = right;
+        int wrongBefore = wrong;
+        test.run();
+        if (wrong == wrongBefore && right > rightBefore) {
+            held++;
+        } else {
+            broken++;
+            System.out.println("does not hold: " + words);
+        }
+    }
 
     void due(String call, long got, long want) {
         if (got == want) {
@@ -20,10 +43,22 @@ final class Checks {
         due(call, got ? 1 : 0, want ? 1 : 0);
     }
 
-    /** Every answer of the object is as in the row that allAnswers() gave before. */
-    void unchanged(String call, int[] before, GopVideoCodec codec) {
-        boolean same = Arrays.equals(before, allAnswers(codec));
-        due(call + ": are all other answers as before?", same, true);
+    /** The call answers the refusal and changes nothing. */
+    void refused(String call, int refusal, Call made, Supplier<GopVideoCodec> maker) {
+        changesNothing(call, codec -> due(call, made.on(codec), refusal), maker);
+    }
+
+    /** No answer differs after the calls, and none ever will from those of a twin without them. */
+    void changesNothing(String call, Consumer<GopVideoCodec> calls, Supplier<GopVideoCodec> maker) {
+        GopVideoCodec codec = maker.get();
+        int[] before = allAnswers(codec);
+        calls.accept(codec);
+        sameAnswers(call + ": are all answers as before?", allAnswers(codec), before);
+        sameAnswers(call + ": are all later answers as without the call?", future(codec), future(maker.get()));
+    }
+
+    void sameAnswers(String question, int[] got, int[] want) {
+        due(question, Arrays.equals(got, want), true);
     }
 
     void pixels(String name, GopVideoCodec codec, int plane, int frame, int[] rows) {
@@ -36,19 +71,16 @@ final class Checks {
     }
 
     void samePixels(String name, GopVideoCodec codec, int planeA, int planeB, int frame) {
-        for (int place = 0; place < 64; place++) {
-            int x = place % 8;
-            int y = place / 8;
-            int want = codec.pixel(planeB, frame, x, y);
-            due(name + " pixel(" + planeA + ", " + frame + ", " + x + ", " + y + ")",
-                    codec.pixel(planeA, frame, x, y), want);
-            due(name + " is that pixel 0..255?", want >= 0 && want <= 255, true);
-        }
+        int[] want = picture(codec, planeB, frame);
+        boolean isReadable = Arrays.stream(want).allMatch(value -> value >= 0 && value <= 255);
+        due(name + " is frame " + frame + " readable on plane " + planeB + "?", isReadable, true);
+        pixels(name, codec, planeA, frame, want);
     }
 
     void finish() {
-        System.out.println(right + " answers are as due, " + wrong + " are not");
-        if (wrong != 0 || right == 0) {
+        System.out.println(held + " sentences hold, " + broken + " do not; "
+                + right + " answers are as due, " + wrong + " are not");
+        if (wrong != 0 || broken != 0 || right == 0) {
             System.exit(1);
         }
     }
@@ -80,6 +112,25 @@ final class Checks {
         return Arrays.copyOf(answers, size);
     }
 
+    /** Carries the object on to the end of its group and through one more, and answers all that it says. */
+    static int[] future(GopVideoCodec codec) {
+        IntStream.Builder answers = IntStream.builder();
+        for (int group = 0; group < 2; group++) {
+            answers.add(codec.appendMoved(0, 1, 2, 3));
+            answers.add(codec.appendTexture(11));
+            answers.add(codec.appendMoved(0, -1, 0, 9));
+            answers.add(codec.setPixel(1, 2, 3, 4) ? 1 : 0);
+            answers.add(codec.encode());
+            for (int k = 0; k <= GopVideoCodec.MAX_FRAMES; k++) {
+                answers.add(codec.decodeNext());
+                Arrays.stream(allAnswers(codec)).forEach(answers::add);
+            }
+            codec.reset();
+            Arrays.stream(allAnswers(codec)).forEach(answers::add);
+        }
+        return answers.build().toArray();
+    }
+
     /** A coded object with the document's example: types I B B P P, order 0 3 1 2 4. */
     static GopVideoCodec codedExample(int quant) {
         GopVideoCodec codec = new GopVideoCodec(quant, 2, 2);
@@ -98,6 +149,14 @@ final class Checks {
         }
     }
 
+    static int[] picture(GopVideoCodec codec, int plane, int frame) {
+        int[] rows = new int[64];
+        for (int place = 0; place < 64; place++) {
+            rows[place] = codec.pixel(plane, frame, place % 8, place / 8);
+        }
+        return rows;
+    }
+
     static int[] flat(int value) {
         int[] rows = new int[64];
         Arrays.fill(rows, value);
@@ -110,5 +169,14 @@ final class Checks {
         for (int place = 0; place < 64; place++) {
             codec.setPixel(frame, place % 8, place / 8, rows[place]);
         }
+    }
+
+    /** An object with just these frames, coded. */
+    static GopVideoCodec coded(GopVideoCodec codec, int[]... frames) {
+        for (int[] rows : frames) {
+            append(codec, rows);
+        }
+        codec.encode();
+        return codec;
     }
 }

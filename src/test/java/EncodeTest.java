@@ -1,171 +1,97 @@
-/** Promise 7. The types and the order have tests of their own. */
+/** Promise 7; the types, the order, the modes, the search and the residual have tests of their own. */
 public final class EncodeTest {
     private static final Checks CHECKS = new Checks();
-    private static final int[][] H = {{1, 1, 1, 1}, {1, 1, -1, -1}, {1, -1, -1, 1}, {1, -1, 1, -1}};
 
-    private static void refusals() {
-        GopVideoCodec codec = new GopVideoCodec(4, 1, 2);
-        refused("encode() without frames", codec);
-        codec.appendTexture(3);
-        codec.appendTexture(4);
-        codec.encode();
-        refused("a second encode()", codec);
-        codec.decodeNext();
-        refused("encode() after one decodeNext()", codec);
-        codec.decodeNext();
-        refused("encode() after all is decoded", codec);
-        codec.reset();
-        refused("encode() after reset()", codec);
-    }
-
-    private static void refused(String call, GopVideoCodec codec) {
-        int[] before = Checks.allAnswers(codec);
-        CHECKS.due(call, codec.encode(), GopVideoCodec.NONE);
-        CHECKS.unchanged(call, before, codec);
-    }
-
-    private static void answersAndCounts() {
-        for (int n = 1; n <= 8; n++) {
-            GopVideoCodec codec = new GopVideoCodec(16, 2, 3);
-            int[][] inputs = new int[n][64];
-            for (int frame = 0; frame < n; frame++) {
-                codec.appendTexture(50 + frame);
-                for (int place = 0; place < 64; place++) {
-                    inputs[frame][place] = codec.pixel(0, frame, place % 8, place / 8);
-                }
+    private static void refusedUnlessLoading() {
+        for (Stage stage : Stage.values()) {
+            if (stage.isCoded) {
+                CHECKS.refused("encode() of " + stage, GopVideoCodec.NONE, GopVideoCodec::encode, stage::make);
             }
-            CHECKS.due("encode() with n = " + n, codec.encode(), n);
+        }
+    }
+
+    private static void refusedWithoutFrames() {
+        CHECKS.refused("encode() of a new object", GopVideoCodec.NONE, GopVideoCodec::encode, Stage.NEW::make);
+        for (Stage stage : Stage.values()) {
+            CHECKS.refused("encode() after reset() of " + stage, GopVideoCodec.NONE, GopVideoCodec::encode,
+                    stage::makeAndReset);
+        }
+    }
+
+    private static GopVideoCodec loaded(int n) {
+        GopVideoCodec codec = new GopVideoCodec(16, 2, 3);
+        for (int frame = 0; frame < n; frame++) {
+            codec.appendTexture(50 + frame);
+        }
+        return codec;
+    }
+
+    private static void answersN() {
+        for (int n = 1; n <= 8; n++) {
+            CHECKS.due("encode() with n = " + n, loaded(n).encode(), n);
+        }
+    }
+
+    private static void setsPhaseAndCounts() {
+        for (int n = 1; n <= 8; n++) {
+            GopVideoCodec codec = loaded(n);
+            codec.encode();
             int[] status = {n, GopVideoCodec.PHASE_CODED, 0, 0, 16, 2, 3};
             for (int kind = 0; kind <= 6; kind++) {
                 CHECKS.due("encode() status(" + kind + ")", codec.status(kind), status[kind]);
             }
-            for (int frame = 0; frame < n; frame++) {
-                CHECKS.pixels("encode()", codec, GopVideoCodec.PLANE_INPUT, frame, inputs[frame]);
+        }
+        // Counts that a group before has left behind.
+        GopVideoCodec codec = Stage.DECODED_FULL.makeAndReset();
+        codec.appendTexture(1);
+        codec.encode();
+        CHECKS.due("encode() of the next group: decoded count", codec.status(GopVideoCodec.STATUS_DECODED), 0);
+        CHECKS.due("encode() of the next group: output count", codec.status(GopVideoCodec.STATUS_OUTPUT), 0);
+        CHECKS.due("encode() of the next group: decodeNext()", codec.decodeNext(), 0);
+    }
+
+    /** Every call but decodeNext and reset, with arguments that would be taken while loading and with wrong ones. */
+    private static void callAllElse(GopVideoCodec codec) {
+        for (int k : Checks.EDGES) {
+            codec.appendGradient(k, 1, 1);
+            codec.appendTexture(k);
+            codec.appendMoved(k, 1, 0, 0);
+            codec.setPixel(k, 1, 1, 1);
+            codec.setPixel(0, 1, 1, k);
+            codec.encode();
+            codec.status(k);
+            codec.frameType(k);
+            codec.codingOrder(k);
+            codec.blockMode(k, 0);
+            codec.blockVector(0, k, k, k);
+            codec.nonZero(0, k);
+            codec.pixel(k, 0, k, k);
+            codec.outputFrame(k);
+        }
+    }
+
+    private static void nothingButDecodeNextChangesTheState() {
+        for (Stage stage : Stage.values()) {
+            if (stage.isCoded) {
+                CHECKS.changesNothing("all calls on " + stage, EncodeTest::callAllElse, stage::make);
             }
         }
     }
 
-    /** A flat I frame has one coefficient a block, 16 * (value - 128). */
-    private static void flatIntra(int quant, int value, int nonZero, int recon) {
-        GopVideoCodec codec = new GopVideoCodec(quant, 2, 1);
-        codec.appendGradient(value, 0, 0);
-        codec.encode();
-        String name = "Qs = " + quant + ", flat " + value;
-        CHECKS.pixels(name, codec, GopVideoCodec.PLANE_RECON, 0, Checks.flat(recon));
-        for (int block = 0; block < 4; block++) {
-            CHECKS.due(name + " nonZero(0, " + block + ")", codec.nonZero(0, block), nonZero);
-            CHECKS.due(name + " blockMode(0, " + block + ")", codec.blockMode(0, block), GopVideoCodec.MODE_INTRA);
-        }
-    }
-
-    private static void flatIntras() {
-        flatIntra(64, 128, 0, 128);
-        // 16: (16 + 32) / 64 = 0. 32: level 1, (64 + 8) >> 4 = 4. -32: level -1, (-64 + 8) >> 4 = -4.
-        flatIntra(64, 129, 0, 128);
-        flatIntra(64, 127, 0, 128);
-        flatIntra(64, 130, 1, 132);
-        flatIntra(64, 126, 1, 124);
-        // 48: level 2, (40 + 8) >> 4 = 3. -48: level -2, (-40 + 8) >> 4 = -2.
-        flatIntra(20, 131, 1, 131);
-        flatIntra(20, 125, 1, 126);
-        // -128: level -5, (-120 + 8) >> 4 = -7.
-        flatIntra(24, 120, 1, 121);
-        // An odd Qs: 32: (32 + 10) / 21 = 2, (42 + 8) >> 4 = 3. -32: (-42 + 8) >> 4 = -3.
-        flatIntra(21, 130, 1, 131);
-        flatIntra(21, 126, 1, 125);
-        // 2032: level 32, (2048 + 8) >> 4 = 128: 256 is clamped.
-        flatIntra(64, 255, 1, 255);
-        // -2048: level -43, (-2064 + 8) >> 4 = -129: -1 is clamped.
-        flatIntra(48, 0, 1, 0);
-        // The ends of what a level can be in an I frame.
-        flatIntra(1, 0, 1, 0);
-        flatIntra(1, 255, 1, 255);
-    }
-
-    /** 128 plus or minus 2 in the signs of one pattern: a single coefficient, 32 at Qs = 64. */
-    private static void onePattern(int u, int v) {
-        int[] rows = new int[64];
-        int[] recon = new int[64];
-        for (int place = 0; place < 64; place++) {
-            int sign = H[u][place / 8 % 4] * H[v][place % 4];
-            rows[place] = 128 + 2 * sign;
-            recon[place] = 128 + 4 * sign;
-        }
-        GopVideoCodec codec = new GopVideoCodec(64, 0, 0);
-        Checks.append(codec, rows);
-        codec.encode();
-        String name = "pattern " + u + ", " + v;
-        CHECKS.pixels(name, codec, GopVideoCodec.PLANE_RECON, 0, recon);
-        for (int block = 0; block < 4; block++) {
-            CHECKS.due(name + " nonZero(0, " + block + ")", codec.nonZero(0, block), 1);
-        }
-    }
-
-    /** The 8 is added once after the whole sum: 8 a pattern would push this one over. */
-    private static void roundingIsOfTheWholeSum() {
-        GopVideoCodec codec = new GopVideoCodec(5, 0, 0);
-        int[] rows = Checks.flat(128);
-        rows[0] = 129;
-        Checks.append(codec, rows);
-        codec.encode();
-        // Every coefficient of block 0 is 1 or -1, and (1 + 2) / 5 = 0.
-        CHECKS.due("one pixel off by 1, Qs = 5: nonZero(0, 0)", codec.nonZero(0, 0), 0);
-        CHECKS.due("one pixel off by 1, Qs = 5: pixel(1, 0, 0, 0)", codec.pixel(1, 0, 0, 0), 128);
-        codec.reset();
-        rows[0] = 131;
-        Checks.append(codec, rows);
-        codec.encode();
-        // Every coefficient is 3 or -3 and its level 1 or -1: at the pixel (16 * 5 + 8) >> 4 = 5,
-        // elsewhere the terms cancel out.
-        int[] recon = Checks.flat(128);
-        recon[0] = 133;
-        CHECKS.due("one pixel off by 3, Qs = 5: nonZero(0, 0)", codec.nonZero(0, 0), 16);
-        CHECKS.pixels("one pixel off by 3, Qs = 5", codec, GopVideoCodec.PLANE_RECON, 0, recon);
-    }
-
-    private static void losslessWithQuantOne() {
-        for (int bFrames = 0; bFrames <= 3; bFrames++) {
-            GopVideoCodec codec = new GopVideoCodec(1, 2, bFrames);
-            for (int k = 0; k < 4; k++) {
-                codec.appendTexture(1000 * k);
-                // Black beside white makes the greatest residuals there are.
-                codec.appendGradient(k % 2 == 0 ? 0 : 255, 0, 0);
+    private static void inputStaysReadableAndUnchanged() {
+        for (int n = 1; n <= 8; n++) {
+            GopVideoCodec codec = loaded(n);
+            int[][] inputs = new int[n][];
+            for (int frame = 0; frame < n; frame++) {
+                inputs[frame] = Checks.picture(codec, GopVideoCodec.PLANE_INPUT, frame);
             }
             codec.encode();
-            for (int frame = 0; frame < 8; frame++) {
-                CHECKS.samePixels("Qs = 1", codec, GopVideoCodec.PLANE_RECON, GopVideoCodec.PLANE_INPUT, frame);
+            for (int round = 0; round < 2; round++) {
+                for (int frame = 0; frame < n; frame++) {
+                    CHECKS.pixels("after encode()", codec, GopVideoCodec.PLANE_INPUT, frame, inputs[frame]);
+                }
+                Checks.decodeAll(codec);
             }
-        }
-    }
-
-    private static void referencesAreReconNotInput() {
-        GopVideoCodec codec = new GopVideoCodec(64, 1, 1);
-        codec.appendGradient(130, 0, 0);
-        codec.appendGradient(132, 0, 0);
-        codec.appendGradient(132, 0, 0);
-        codec.encode();
-        // Frame 0 becomes 132, so nothing is left to code in frames 1 and 2.
-        for (int frame = 0; frame < 3; frame++) {
-            CHECKS.pixels("recon as reference", codec, GopVideoCodec.PLANE_RECON, frame, Checks.flat(132));
-            CHECKS.due("recon as reference: nonZero(" + frame + ", 2)", codec.nonZero(frame, 2), frame == 0 ? 1 : 0);
-        }
-    }
-
-    /** Each frame's one reference or two, told by a level of 0 for the frame that equals them. */
-    private static void referencesAreTheNearestAnchors() {
-        GopVideoCodec codec = new GopVideoCodec(1, 0, 2);
-        int[] shades = {50, 100, 50, 100, 50, 200, 200, 200};
-        for (int shade : shades) {
-            codec.appendGradient(shade, 0, 0);
-        }
-        codec.encode();
-        // I B B P B B P P; frame 1 equals anchor 3, 2 equals anchor 0, 4 equals no anchor around
-        // it (100 and 200) and lies nearer to 3, 5 equals anchor 6, 7 equals anchor 6.
-        int[] modes = {0, 2, 1, 1, 1, 2, 1, 1};
-        int[] nonZeros = {1, 0, 0, 1, 1, 0, 1, 0};
-        for (int frame = 0; frame < 8; frame++) {
-            CHECKS.due("anchors: blockMode(" + frame + ", 1)", codec.blockMode(frame, 1), modes[frame]);
-            CHECKS.due("anchors: nonZero(" + frame + ", 1)", codec.nonZero(frame, 1), nonZeros[frame]);
         }
     }
 
@@ -179,18 +105,78 @@ public final class EncodeTest {
         CHECKS.due("not edited nonZero(0, 0)", codec.nonZero(0, 0), 1);
     }
 
-    public static void main(String[] args) {
-        refusals();
-        answersAndCounts();
-        flatIntras();
-        for (int pattern = 0; pattern < 16; pattern++) {
-            onePattern(pattern / 4, pattern % 4);
+    /** The least and the greatest place of each block, told by the one pixel of the frame that is off. */
+    private static void blocksAreQuarters() {
+        int[][] corners = {{0, 0, 0}, {3, 3, 0}, {4, 0, 1}, {7, 3, 1}, {0, 4, 2}, {3, 7, 2}, {4, 4, 3}, {7, 7, 3}};
+        for (int[] corner : corners) {
+            int[] rows = Checks.flat(128);
+            rows[8 * corner[1] + corner[0]] = 140;
+            GopVideoCodec codec = Checks.coded(new GopVideoCodec(1, 0, 0), rows);
+            for (int block = 0; block < 4; block++) {
+                CHECKS.due("pixel (" + corner[0] + ", " + corner[1] + ") is off: nonZero(0, " + block + ")",
+                        codec.nonZero(0, block), block == corner[2] ? 16 : 0);
+            }
         }
-        roundingIsOfTheWholeSum();
-        losslessWithQuantOne();
-        referencesAreReconNotInput();
-        referencesAreTheNearestAnchors();
-        inputAsItIsAtEncode();
+    }
+
+    private static void shades(int quant, int bFrames, int[] shades, int[] modes, int[] nonZeros) {
+        int[][] frames = new int[shades.length][];
+        for (int frame = 0; frame < shades.length; frame++) {
+            frames[frame] = Checks.flat(shades[frame]);
+        }
+        GopVideoCodec codec = Checks.coded(new GopVideoCodec(quant, 1, bFrames), frames);
+        for (int frame = 0; frame < shades.length; frame++) {
+            for (int block = 0; block < 4; block++) {
+                String of = "(" + frame + ", " + block + ")";
+                CHECKS.due("shades: blockMode" + of, codec.blockMode(frame, block), modes[frame]);
+                CHECKS.due("shades: nonZero" + of, codec.nonZero(frame, block), nonZeros[frame]);
+            }
+        }
+    }
+
+    private static void intraPredicts128() {
+        shades(1, 0, new int[] {127}, new int[] {0}, new int[] {1});
+        shades(1, 0, new int[] {128}, new int[] {0}, new int[] {0});
+        shades(1, 0, new int[] {129}, new int[] {0}, new int[] {1});
+    }
+
+    /** I P P P: each P frame looks at the frame just before it, whatever lies further back. */
+    private static void forwardIsTheAnchorJustBelow() {
+        shades(1, 0, new int[] {50, 100, 50, 50}, new int[] {0, 1, 1, 1}, new int[] {1, 1, 1, 0});
+        // I B P B P: frame 4 looks at 2, not at 3.
+        shades(1, 1, new int[] {50, 50, 90, 120, 120}, new int[] {0, 1, 1, 2, 1}, new int[] {1, 0, 1, 0, 1});
+        // I B B P B B P P: frame 5 lies nearest to B frame 4, but equals neither anchor.
+        shades(1, 2, new int[] {50, 100, 50, 100, 50, 200, 200, 200}, new int[] {0, 2, 1, 1, 1, 2, 1, 1},
+                new int[] {1, 0, 0, 1, 1, 0, 1, 0});
+    }
+
+    /** I B B P B B P: the frames of the second group equal anchor 0, 3 or 6; 0 is too far. */
+    private static void backwardIsTheAnchorJustAbove() {
+        shades(1, 2, new int[] {10, 200, 60, 60, 10, 200, 200}, new int[] {0, 2, 2, 1, 1, 2, 1},
+                new int[] {1, 1, 0, 1, 1, 0, 1});
+    }
+
+    private static void referencesAreRecon() {
+        // At Qs = 64 frame 0 becomes 132, so nothing is left to code in frames 1 and 2.
+        shades(64, 1, new int[] {130, 132, 132}, new int[] {0, 1, 1}, new int[] {1, 0, 0});
+        // Frame 2 becomes 124 and frame 1, at 124, equals it; its input, 126, would leave -32.
+        shades(64, 1, new int[] {128, 124, 126}, new int[] {0, 2, 1}, new int[] {0, 0, 1});
+    }
+
+    public static void main(String[] args) {
+        CHECKS.sentence("refused when the phase is not PHASE_LOADING", EncodeTest::refusedUnlessLoading);
+        CHECKS.sentence("refused when n == 0", EncodeTest::refusedWithoutFrames);
+        CHECKS.sentence("answers n", EncodeTest::answersN);
+        CHECKS.sentence("sets the phase to PHASE_CODED and the counts to 0", EncodeTest::setsPhaseAndCounts);
+        CHECKS.sentence("until reset() nothing but decodeNext changes the state",
+                EncodeTest::nothingButDecodeNextChangesTheState);
+        CHECKS.sentence("input pixels stay readable and unchanged", EncodeTest::inputStaysReadableAndUnchanged);
+        CHECKS.sentence("using the input pixels as they are at encode()", EncodeTest::inputAsItIsAtEncode);
+        CHECKS.sentence("block b has left column 4 * (b % 2) and top row 4 * (b / 2)", EncodeTest::blocksAreQuarters);
+        CHECKS.sentence("I frame: p = 128 everywhere", EncodeTest::intraPredicts128);
+        CHECKS.sentence("F: the anchor with the greatest display index below", EncodeTest::forwardIsTheAnchorJustBelow);
+        CHECKS.sentence("G: the anchor with the least display index above", EncodeTest::backwardIsTheAnchorJustAbove);
+        CHECKS.sentence("F and G are recon, not input", EncodeTest::referencesAreRecon);
         CHECKS.finish();
     }
 }

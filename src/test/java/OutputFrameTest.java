@@ -2,34 +2,48 @@
 public final class OutputFrameTest {
     private static final Checks CHECKS = new Checks();
 
-    private static void released(String after, GopVideoCodec codec, int count) {
-        int[] before = Checks.allAnswers(codec);
-        for (int k = 0; k < 8; k++) {
-            CHECKS.due(after + ": outputFrame(" + k + ")", codec.outputFrame(k), k < count ? k : GopVideoCodec.NONE);
+    private static void noneBeyond(String of, GopVideoCodec codec, int count) {
+        for (int k = count; k <= 9; k++) {
+            CHECKS.due("outputFrame(" + k + ") of " + of, codec.outputFrame(k), GopVideoCodec.NONE);
         }
-        for (int k : new int[] {Integer.MIN_VALUE, -2, -1, 8, 9, Integer.MAX_VALUE}) {
-            CHECKS.due(after + ": outputFrame(" + k + ")", codec.outputFrame(k), GopVideoCodec.NONE);
+        for (int k : new int[] {Integer.MIN_VALUE, -2, -1, Integer.MAX_VALUE}) {
+            CHECKS.due("outputFrame(" + k + ") of " + of, codec.outputFrame(k), GopVideoCodec.NONE);
         }
-        CHECKS.unchanged(after + ": outputFrame", before, codec);
+    }
+
+    private static void noneOutsideTheReleased() {
+        for (Stage stage : Stage.values()) {
+            noneBeyond(stage.name(), stage.make(), stage.outputCount);
+            noneBeyond("reset " + stage, stage.makeAndReset(), 0);
+        }
+    }
+
+    private static void kItself() {
+        GopVideoCodec codec = Stage.CODED_FULL.make();
+        // Coding order 0 4 1 2 3 7 5 6; the last call is refused.
+        for (int count : new int[] {1, 1, 2, 3, 5, 5, 6, 8, 8}) {
+            codec.decodeNext();
+            for (int k = 0; k < count; k++) {
+                CHECKS.due("outputFrame(" + k + ") with " + count + " released", codec.outputFrame(k), k);
+            }
+            noneBeyond(count + " released", codec, count);
+        }
+    }
+
+    private static void changesNothing() {
+        for (Stage stage : Stage.values()) {
+            CHECKS.changesNothing("outputFrame of " + stage, codec -> {
+                for (int k : Checks.EDGES) {
+                    codec.outputFrame(k);
+                }
+            }, stage::make);
+        }
     }
 
     public static void main(String[] args) {
-        GopVideoCodec codec = new GopVideoCodec(10, 1, 3);
-        released("new", codec, 0);
-        for (int frame = 0; frame < 8; frame++) {
-            codec.appendTexture(frame);
-        }
-        released("loaded", codec, 0);
-        codec.encode();
-        released("encode", codec, 0);
-        // Coding order 0 4 1 2 3 7 5 6.
-        int[] counts = {1, 1, 2, 3, 5, 5, 6, 8, 8};
-        for (int count : counts) {
-            codec.decodeNext();
-            released("decodeNext", codec, count);
-        }
-        codec.reset();
-        released("reset", codec, 0);
+        CHECKS.sentence("NONE when k is not in 0..(output count - 1)", OutputFrameTest::noneOutsideTheReleased);
+        CHECKS.sentence("the frame released as number k, which is k itself", OutputFrameTest::kItself);
+        CHECKS.sentence("it changes nothing", OutputFrameTest::changesNothing);
         CHECKS.finish();
     }
 }
