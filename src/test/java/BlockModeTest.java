@@ -56,6 +56,35 @@ public final class BlockModeTest {
         flats(100, 176, 200, GopVideoCodec.MODE_BACKWARD);
     }
 
+    /** All frames are flat but for a few pixels a block, each a first, a between and a last shade. */
+    private static void fewPixels(int mode, int[]... pixels) {
+        int[][] frames = {Checks.flat(100), Checks.flat(100), Checks.flat(100)};
+        for (int block = 0; block < 4; block++) {
+            for (int k = 0; k < pixels.length; k++) {
+                int place = 8 * (2 + block / 2 * 4) + k + block % 2 * 4;
+                for (int frame = 0; frame < 3; frame++) {
+                    frames[frame][place] = pixels[k][frame];
+                }
+            }
+        }
+        modes(pixels.length + " pixels", frames[0], frames[1], frames[2], mode);
+    }
+
+    private static void theLeastCostIsTakenByAsLittleAs1() {
+        // Costs of 0, 2 and 1; of 2, 0 and 1; of 1, 1 and 0, for forward, backward and both.
+        fewPixels(GopVideoCodec.MODE_FORWARD, new int[] {102, 102, 100});
+        fewPixels(GopVideoCodec.MODE_BACKWARD, new int[] {100, 102, 102});
+        fewPixels(GopVideoCodec.MODE_BI, new int[] {100, 101, 102});
+        // Costs of 0, 1 and 0; of 1, 0 and 0.
+        fewPixels(GopVideoCodec.MODE_FORWARD, new int[] {101, 101, 100});
+        fewPixels(GopVideoCodec.MODE_BACKWARD, new int[] {100, 101, 101});
+        // Costs of 1, 2 and 3; of 2, 1 and 3: the mean, rounded up, is off at every pixel.
+        int[] likeFirst = {100, 100, 101};
+        int[] likeLast = {101, 100, 100};
+        fewPixels(GopVideoCodec.MODE_FORWARD, likeFirst, likeFirst, likeLast);
+        fewPixels(GopVideoCodec.MODE_BACKWARD, likeFirst, likeLast, likeLast);
+    }
+
     private static void forwardTiesWithBi() {
         flats(101, 101, 100, GopVideoCodec.MODE_FORWARD);
         flats(100, 125, 200, GopVideoCodec.MODE_FORWARD);
@@ -99,6 +128,7 @@ public final class BlockModeTest {
         CHECKS.sentence("MODE_FORWARD for every block of a P frame",
                 () -> everyBlockOf('P', GopVideoCodec.MODE_FORWARD));
         CHECKS.sentence("the mode with the least cost is taken", BlockModeTest::theLeastCostIsTaken);
+        CHECKS.sentence("the least cost, by as little as 1", BlockModeTest::theLeastCostIsTakenByAsLittleAs1);
         CHECKS.sentence("a tie of FORWARD and BI goes to FORWARD", BlockModeTest::forwardTiesWithBi);
         CHECKS.sentence("a tie of BACKWARD and BI goes to BACKWARD", BlockModeTest::backwardTiesWithBi);
         CHECKS.sentence("a tie of FORWARD and BACKWARD goes to FORWARD", BlockModeTest::forwardTiesWithBackward);

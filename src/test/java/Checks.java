@@ -21,12 +21,22 @@ final class Checks {
     void sentence(String words, Runnable test) {
         int rightBefore = right;
         int wrongBefore = wrong;
-        test.run();
+        runAndCatch(test);
         if (wrong == wrongBefore && right > rightBefore) {
             held++;
         } else {
             broken++;
             System.out.println("does not hold: " + words);
+        }
+    }
+
+    /** No call may throw; if one does, the other sentences have their turn all the same. */
+    private void runAndCatch(Runnable test) {
+        try {
+            test.run();
+        } catch (RuntimeException thrown) {
+            wrong++;
+            thrown.printStackTrace(System.out);
         }
     }
 
@@ -116,11 +126,14 @@ final class Checks {
     static int[] future(GopVideoCodec codec) {
         IntStream.Builder answers = IntStream.builder();
         for (int group = 0; group < 2; group++) {
-            answers.add(codec.appendMoved(0, 1, 2, 3));
-            answers.add(codec.appendTexture(11));
-            answers.add(codec.appendMoved(0, -1, 0, 9));
-            answers.add(codec.setPixel(1, 2, 3, 4) ? 1 : 0);
-            answers.add(codec.encode());
+            // A coded group is decoded and no more, lest a call made here hide what one before has done.
+            if (codec.status(GopVideoCodec.STATUS_PHASE) == GopVideoCodec.PHASE_LOADING) {
+                answers.add(codec.appendMoved(0, 1, 2, 3));
+                answers.add(codec.appendTexture(11));
+                answers.add(codec.appendMoved(0, -1, 0, 9));
+                answers.add(codec.setPixel(1, 2, 3, 4) ? 1 : 0);
+                answers.add(codec.encode());
+            }
             for (int k = 0; k <= GopVideoCodec.MAX_FRAMES; k++) {
                 answers.add(codec.decodeNext());
                 Arrays.stream(allAnswers(codec)).forEach(answers::add);

@@ -161,6 +161,10 @@ public final class EncodeTest {
         shades(64, 1, new int[] {130, 132, 132}, new int[] {0, 1, 1}, new int[] {1, 0, 0});
         // Frame 2 becomes 124 and frame 1, at 124, equals it; its input, 126, would leave -32.
         shades(64, 1, new int[] {128, 124, 126}, new int[] {0, 2, 1}, new int[] {0, 0, 1});
+        // The costs too are of the recon: frame 1 equals an anchor's input, but lies midway between
+        // what the anchors become, 128 and 132.
+        shades(64, 1, new int[] {128, 130, 130}, new int[] {0, 3, 1}, new int[] {0, 0, 1});
+        shades(64, 1, new int[] {130, 130, 128}, new int[] {0, 3, 1}, new int[] {1, 0, 1});
     }
 
     public static void main(String[] args) {

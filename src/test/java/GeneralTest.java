@@ -51,16 +51,19 @@ public final class GeneralTest {
     /** A group of the full length may come again and again: nothing runs over. */
     private static void fullGroupsOneAfterAnother() {
         GopVideoCodec codec = Stage.fresh();
-        int[] first = new int[0];
         for (int group = 0; group < 20; group++) {
+            GopVideoCodec other = Stage.fresh();
             for (int k = 0; k < 8; k++) {
-                codec.appendTexture(k);
+                codec.appendTexture(8 * group + k);
+                other.appendTexture(8 * group + k);
             }
             CHECKS.due("encode() of group " + group, codec.encode(), 8);
+            other.encode();
             Checks.decodeAll(codec);
-            int[] answers = Checks.allAnswers(codec);
-            first = group == 0 ? answers : first;
-            CHECKS.sameAnswers("does group " + group + " answer as the first?", answers, first);
+            Checks.decodeAll(other);
+            CHECKS.sameAnswers("does group " + group + " answer as on a new object?",
+                    Checks.allAnswers(codec), Checks.allAnswers(other));
+            CHECKS.samePixels("group " + group, codec, GopVideoCodec.PLANE_OUTPUT, GopVideoCodec.PLANE_RECON, 6);
             codec.reset();
         }
     }

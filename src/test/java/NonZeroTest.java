@@ -20,7 +20,7 @@ public final class NonZeroTest {
     private static void levelsOtherThan0Count() {
         int[] rows = Checks.flat(128);
         // Block 1: one pixel off, so every coefficient is 10 or -10.
-        rows[4] = 138;
+        rows[8 * 2 + 5] = 138;
         // Block 2: all off by 3, so the first coefficient alone, 48.
         for (int place = 0; place < 16; place++) {
             rows[(4 + place / 4) * 8 + place % 4] = 131;

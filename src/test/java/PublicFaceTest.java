@@ -44,7 +44,15 @@ public final class PublicFaceTest {
         return Arrays.stream(types).map(Class::getName).collect(Collectors.joining(", ", "(", ")"));
     }
 
-    private static void fields() throws IllegalAccessException {
+    private static int valueOf(Field constant) {
+        try {
+            return constant.getInt(null);
+        } catch (IllegalAccessException unreadable) {
+            throw new IllegalStateException(unreadable);
+        }
+    }
+
+    private static void fields() {
         Set<String> visible = new TreeSet<>();
         int instanceFields = 0;
         for (Field field : TYPE.getDeclaredFields()) {
@@ -52,7 +60,7 @@ public final class PublicFaceTest {
             if (Modifier.isPublic(modifiers)) {
                 CHECKS.due(field + " is a constant?", Modifier.isStatic(modifiers) && Modifier.isFinal(modifiers)
                         && field.getType() == int.class, true);
-                visible.add(field.getName() + " = " + field.getInt(null));
+                visible.add(field.getName() + " = " + valueOf(field));
             } else {
                 CHECKS.due(field + " is private?", Modifier.isPrivate(modifiers), true);
             }
@@ -91,20 +99,28 @@ public final class PublicFaceTest {
         same("methods", visible, METHODS);
     }
 
-    public static void main(String[] args) throws IllegalAccessException {
+    private static void constructors() {
+        Set<String> constructors = new TreeSet<>();
+        for (Constructor<?> constructor : TYPE.getDeclaredConstructors()) {
+            constructors.add(Modifier.toString(constructor.getModifiers()) + typesOf(constructor.getParameterTypes()));
+        }
+        same("constructors", constructors, Set.of("public(int, int, int)"));
+    }
+
+    private static void oneClass() {
         CHECKS.due("is the class public?", Modifier.isPublic(TYPE.getModifiers()), true);
         CHECKS.due("is the class final?", Modifier.isFinal(TYPE.getModifiers()), true);
         CHECKS.due("has the class no package?", TYPE.getPackageName().isEmpty(), true);
         CHECKS.due("nested classes", TYPE.getDeclaredClasses().length, 0);
         CHECKS.due("interfaces", TYPE.getInterfaces().length, 0);
         CHECKS.due("extends Object alone?", TYPE.getSuperclass() == Object.class, true);
-        Set<String> constructors = new TreeSet<>();
-        for (Constructor<?> constructor : TYPE.getDeclaredConstructors()) {
-            constructors.add(Modifier.toString(constructor.getModifiers()) + typesOf(constructor.getParameterTypes()));
-        }
-        same("constructors", constructors, Set.of("public(int, int, int)"));
-        fields();
-        methods();
+    }
+
+    public static void main(String[] args) {
+        CHECKS.sentence("public final class GopVideoCodec", PublicFaceTest::oneClass);
+        CHECKS.sentence("public constants (all public static final int)", PublicFaceTest::fields);
+        CHECKS.sentence("the public constructor", PublicFaceTest::constructors);
+        CHECKS.sentence("the public methods and no other", PublicFaceTest::methods);
         CHECKS.finish();
     }
 }

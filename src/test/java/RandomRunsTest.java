@@ -1,3 +1,5 @@
+import java.util.function.IntConsumer;
+
 /** All promises: long mixed runs of calls, judged by the reference, with every answer after every call. */
 public final class RandomRunsTest {
     private static final Checks CHECKS = new Checks();
@@ -125,11 +127,15 @@ public final class RandomRunsTest {
         compareAll(run + " decoded", codec, reference);
     }
 
-    public static void main(String[] args) {
+    private static void repeat(IntConsumer run) {
         for (int number = 0; number < 200; number++) {
-            mixedRun(number);
-            codedRun(number);
+            run.accept(number);
         }
+    }
+
+    public static void main(String[] args) {
+        CHECKS.sentence("all promises, in runs of mixed calls", () -> repeat(RandomRunsTest::mixedRun));
+        CHECKS.sentence("all promises, in coded groups", () -> repeat(RandomRunsTest::codedRun));
         CHECKS.finish();
     }
 }
