@@ -43,7 +43,8 @@ public final class AppendTextureTest {
             GopVideoCodec codec = new GopVideoCodec(1, 0, 0);
             codec.appendTexture(seed);
             for (int value : Checks.picture(codec, GopVideoCodec.PLANE_INPUT, 0)) {
-                CHECKS.due("appendTexture(" + seed + "): is " + value + " in 0..255?", value >= 0 && value <= 255, true);
+                CHECKS.due("appendTexture(" + seed + "): is " + value + " in 0..255?",
+                        value >= 0 && value <= 255, true);
             }
         }
     }

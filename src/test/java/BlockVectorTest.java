@@ -69,6 +69,7 @@ public final class BlockVectorTest {
         for (int block = 0; block < 4; block++) {
             CHECKS.due("blockMode(1, " + block + ")", codec.blockMode(1, block), GopVideoCodec.MODE_FORWARD);
             vectors("forward", codec, 1, block, -1, -2, 0, 0);
+            CHECKS.due("nonZero(1, " + block + ") with that vector", codec.nonZero(1, block), 0);
         }
     }
 
@@ -77,6 +78,7 @@ public final class BlockVectorTest {
         for (int block = 0; block < 4; block++) {
             CHECKS.due("blockMode(2, " + block + ")", codec.blockMode(2, block), GopVideoCodec.MODE_BACKWARD);
             vectors("backward", codec, 2, block, 0, 0, 2, -1);
+            CHECKS.due("nonZero(2, " + block + ") with that vector", codec.nonZero(2, block), 0);
         }
     }
 

@@ -5,7 +5,7 @@ import java.util.stream.IntStream;
 
 /** Counts and prints the answers that are not the ones that are due, sentence by sentence of the document. */
 final class Checks {
-    static final int[] EDGES = {Integer.MIN_VALUE, -128, -1, 0, 1, 7, 8, 9, 64, 255, 256, Integer.MAX_VALUE};
+    static final int[] EDGES = {Integer.MIN_VALUE, -128, -1, 0, 1, 2, 3, 7, 8, 9, 64, 255, 256, Integer.MAX_VALUE};
 
     /** A call of the document's face; a boolean counts 1 or 0. */
     interface Call {

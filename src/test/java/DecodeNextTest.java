@@ -70,6 +70,31 @@ public final class DecodeNextTest {
         released(3, "11235");
     }
 
+    /** The greatest m such that the coding positions below the decoded count hold all of 0..m-1. */
+    private static int dueOutputCount(GopVideoCodec codec) {
+        boolean[] isDecoded = new boolean[9];
+        for (int pos = 0; pos < codec.status(GopVideoCodec.STATUS_DECODED); pos++) {
+            isDecoded[codec.codingOrder(pos)] = true;
+        }
+        int m = 0;
+        while (isDecoded[m]) {
+            m++;
+        }
+        return m;
+    }
+
+    private static void theGreatestRunFrom0() {
+        for (int at = 0; at < 32; at++) {
+            int n = 1 + at / 4;
+            GopVideoCodec codec = coded(30, at % 4, n);
+            for (int call = 0; call <= n + 1; call++) {
+                CHECKS.due("M = " + at % 4 + ", n = " + n + ", after call " + call + ": output count",
+                        codec.status(GopVideoCodec.STATUS_OUTPUT), dueOutputCount(codec));
+                codec.decodeNext();
+            }
+        }
+    }
+
     private static void theKthReleasedIsFrameK() {
         for (int bFrames = 0; bFrames <= 3; bFrames++) {
             GopVideoCodec codec = coded(30, bFrames, 8);
@@ -222,6 +247,8 @@ public final class DecodeNextTest {
                 DecodeNextTest::releasedAsSoonAsPossible);
         CHECKS.sentence("0 <= output count <= decoded count <= n", DecodeNextTest::countsStayInOrder);
         CHECKS.sentence("the k-th released frame is display frame k", DecodeNextTest::theKthReleasedIsFrameK);
+        CHECKS.sentence("the output count is the greatest m <= n with 0..m-1 all decoded",
+                DecodeNextTest::theGreatestRunFrom0);
         CHECKS.sentence("once all n frames are decoded, the output count is n", DecodeNextTest::allAreReleasedInTheEnd);
         CHECKS.sentence("with order 0 3 1 2 4 the output counts are 1, 1, 2, 4, 5", () -> released(2, "11245"));
         CHECKS.sentence("input, recon, types, order and block data do not change",

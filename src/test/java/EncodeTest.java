@@ -165,6 +165,8 @@ public final class EncodeTest {
         // what the anchors become, 128 and 132.
         shades(64, 1, new int[] {128, 130, 130}, new int[] {0, 3, 1}, new int[] {0, 0, 1});
         shades(64, 1, new int[] {130, 130, 128}, new int[] {0, 3, 1}, new int[] {1, 0, 1});
+        // So is the cost of both: frame 1 is the mean of 132 and 136, the inputs' would be 132.
+        shades(64, 1, new int[] {130, 134, 134}, new int[] {0, 3, 1}, new int[] {1, 0, 1});
     }
 
     public static void main(String[] args) {

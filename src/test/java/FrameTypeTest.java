@@ -68,7 +68,8 @@ public final class FrameTypeTest {
                 (codec, frame, block) -> codec.frameType(frame));
         answers.frameSentences("frame");
         CHECKS.sentence("display index 0 is TYPE_I", FrameTypeTest::frame0IsI);
-        CHECKS.sentence("k > 0 is TYPE_P when k % (M + 1) == 0, otherwise TYPE_B", FrameTypeTest::multiplesOfMPlus1AreP);
+        CHECKS.sentence("k > 0 is TYPE_P when k % (M + 1) == 0, otherwise TYPE_B",
+                FrameTypeTest::multiplesOfMPlus1AreP);
         CHECKS.sentence("or k == n - 1: the last frame is always an anchor", FrameTypeTest::theLastFrameIsAnAnchor);
         CHECKS.sentence("k == n - 1 and k % (M + 1) == 0", FrameTypeTest::theLastFrameIsAMultiple);
         CHECKS.sentence("with M = 0 every frame after the first is TYPE_P",

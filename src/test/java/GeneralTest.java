@@ -88,12 +88,63 @@ public final class GeneralTest {
         CHECKS.sameAnswers("does the other go on as it would alone?", Checks.future(other), Checks.future(alone));
     }
 
+    private static void within(String call, int answer, int least, int greatest) {
+        CHECKS.due(call + " answered " + answer + ", is it in " + least + ".." + greatest + "?",
+                answer >= least && answer <= greatest, true);
+    }
+
+    private static void askFour(GopVideoCodec codec, int a, int b, int c, int d) {
+        within("pixel", codec.pixel(a, b, c, d), GopVideoCodec.NONE, 255);
+        int vector = codec.blockVector(a, b, c, d);
+        within("blockVector", vector == GopVideoCodec.NO_VECTOR ? 0 : vector, -Stage.RANGE, Stage.RANGE);
+        within("blockMode", codec.blockMode(a, b), GopVideoCodec.NONE, GopVideoCodec.MODE_BI);
+        within("nonZero", codec.nonZero(a, b), GopVideoCodec.NONE, 16);
+        within("frameType", codec.frameType(a), GopVideoCodec.NONE, GopVideoCodec.TYPE_B);
+        within("codingOrder", codec.codingOrder(a), GopVideoCodec.NONE, 7);
+        within("outputFrame", codec.outputFrame(a), GopVideoCodec.NONE, 7);
+        within("status", codec.status(a), GopVideoCodec.NONE, 9);
+    }
+
+    private static void changeFour(Stage stage, int a, int b, int c, int d) {
+        GopVideoCodec codec = stage.make();
+        codec.setPixel(a, b, c, d);
+        within("appendMoved", codec.appendMoved(a, b, c, d), GopVideoCodec.NONE, 7);
+        within("appendGradient", codec.appendGradient(b, c, d), GopVideoCodec.NONE, 7);
+        within("appendTexture", codec.appendTexture(d), GopVideoCodec.NONE, 7);
+        within("encode", codec.encode(), GopVideoCodec.NONE, 8);
+        within("decodeNext", codec.decodeNext(), GopVideoCodec.NONE, 7);
+        within("decodeNext", codec.decodeNext(), GopVideoCodec.NONE, 7);
+        for (int place = 0; place < 64; place += 9) {
+            within("pixel", codec.pixel(GopVideoCodec.PLANE_INPUT, 3, place % 8, place / 8), GopVideoCodec.NONE, 255);
+        }
+    }
+
+    private static void anyArgumentsInAnyState() {
+        int edges = Checks.EDGES.length;
+        for (Stage stage : Stage.values()) {
+            GopVideoCodec codec = stage.make();
+            for (int at = 0; at < edges * edges * edges * edges; at++) {
+                int a = Checks.EDGES[at % edges];
+                int b = Checks.EDGES[at / edges % edges];
+                int c = Checks.EDGES[at / edges / edges % edges];
+                int d = Checks.EDGES[at / edges / edges / edges];
+                askFour(codec, a, b, c, d);
+                // A step that shares no factor with the number of edges brings every value to every argument.
+                if (at % 97 == 0) {
+                    changeFour(stage, a, b, c, d);
+                }
+            }
+        }
+    }
+
     public static void main(String[] args) {
         CHECKS.sentence("a frame is 8x8 pixels; (x, y) has column x and row y, both 0..7", GeneralTest::aFrameIs8By8);
         CHECKS.sentence("the first appended frame has index 0, the next 1, and so on", GeneralTest::indicesGrowFrom0);
         CHECKS.sentence("up to MAX_FRAMES frames are appended", GeneralTest::upTo8Frames);
         CHECKS.sentence("the stream has room for a full group, every time", GeneralTest::fullGroupsOneAfterAnother);
         CHECKS.sentence("the stream is kept inside the object", GeneralTest::objectsAreApart);
+        CHECKS.sentence("no call ever throws, for any arguments in any state (LANGUAGE.md, rule 7)",
+                GeneralTest::anyArgumentsInAnyState);
         CHECKS.finish();
     }
 }
