@@ -149,7 +149,7 @@ public final class DecodeNextTest {
         }
     }
 
-    /** Black after white and white after black: coefficients of -4080 and 4080, each frame in one of 16 places. */
+    /** Black after white and white after black: coefficients of -4080 and 4080. */
     private static void greatestLevels(int quant) {
         GopVideoCodec codec = Checks.coded(new GopVideoCodec(quant, 2, quant % 4), Checks.flat(0), Checks.flat(255),
                 Checks.flat(0), Checks.flat(255), Checks.flat(0), Checks.flat(255), Checks.flat(0), Checks.flat(255));
